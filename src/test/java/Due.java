@@ -1,5 +1,10 @@
 /** Counts the answers of one test that are not as due, and ends the test. */
 final class Due {
+    /** A full source. */
+    static final String S32 = "01230123012301230123012301230123";
+    /** A full target, of whose pairs of letters none occurs in S32. */
+    static final String T24 = "332211003322110033221100";
+
     private final String test;
     private int asked = 0;
     private int wrong = 0;

@@ -1,8 +1,7 @@
 /** All promises: long runs of calls, each answer beside the model's; the runs are the same each time. */
 public final class ModelTest {
     private static final Due CHECK = new Due("ModelTest");
-    private static final int OBJECTS = 600;
-    private static final int CALLS = 512;
+    private static final int OBJECTS = 1000;
     private static final int[] ODD = {
         Integer.MIN_VALUE, Integer.MIN_VALUE + 1, -33, -1, 4, 24, 25, 32, 33, 100, 101,
         Integer.MAX_VALUE - 1, Integer.MAX_VALUE};
@@ -34,68 +33,50 @@ public final class ModelTest {
     }
 
     private static void run(int run, int growth) {
-        CopyAddDelta x = new CopyAddDelta();
-        Model model = new Model();
-        for (int call = 0; call < CALLS; call++) {
-            String when = "run " + run + ", call " + call + ": ";
+        Beside both = new Beside(CHECK, "run " + run);
+        while (both.calls() < Beside.MOST_CALLS) {
             if (next(8) < growth) {
-                edit(when, x, model);
+                edit(both);
             } else {
-                ask(when, x, model);
+                ask(both);
             }
         }
     }
 
-    private static void edit(String when, CopyAddDelta x, Model model) {
+    private static void edit(Beside both) {
         int a = number(32);
         int b = number(8);
         int c = letter();
         switch (next(40)) {
-            case 0, 1 -> CHECK.due(when + "accept()", x.accept(), model.accept());
-            case 2 -> {
-                x.clearSource();
-                model.clearSource();
-            }
-            case 3, 4 -> {
-                x.clearTarget();
-                model.clearTarget();
-            }
-            case 5, 6, 7 -> CHECK.due(when + "quote(" + a + ", " + b + ")", x.quote(a, b), model.quote(a, b));
-            case 8, 9, 10, 11 ->
-                CHECK.due(when + "change(" + a + ", " + c + ")", x.change(a, c), model.change(a, c));
-            default -> {
-                if (next(5) < 3) {
-                    CHECK.due(when + "source(" + c + ")", x.source(c), model.source(c));
-                } else {
-                    CHECK.due(when + "target(" + c + ")", x.target(c), model.target(c));
-                }
-            }
+            case 0, 1 -> both.ask(Call.ACCEPT);
+            case 2 -> both.ask(Call.CLEAR_SOURCE);
+            case 3, 4 -> both.ask(Call.CLEAR_TARGET);
+            case 5, 6, 7 -> both.ask(Call.QUOTE, a, b);
+            case 8, 9, 10, 11 -> both.ask(Call.CHANGE, a, c);
+            default -> both.ask(next(5) < 3 ? Call.SOURCE : Call.TARGET, c);
         }
-        CHECK.due(when + "lengths()", x.lengths(), model.lengths());
     }
 
-    private static void ask(String when, CopyAddDelta x, Model model) {
+    private static void ask(Beside both) {
         int a = number(24);
         int b = number(24);
         int p = number(10);
         int copy = number(100);
         int add = number(next(2) == 0 ? 100 : 20);
         switch (next(13)) {
-            case 0 -> CHECK.due(when + "lengths()", x.lengths(), model.lengths());
-            case 1 -> CHECK.due(when + "pieces()", x.pieces(), model.pieces());
-            case 2 -> CHECK.due(when + "pieceLength(" + p + ")", x.pieceLength(p), model.pieceLength(p));
-            case 3 -> CHECK.due(when + "pieceFrom(" + p + ")", x.pieceFrom(p), model.pieceFrom(p));
-            case 4 -> CHECK.due(when + "fewest()", x.fewest(), model.fewest());
-            case 5 -> CHECK.due(when + "cheapest(" + copy + ", " + add + ")",
-                    x.cheapest(copy, add), model.cheapest(copy, add));
-            case 6 -> CHECK.due(when + "occurrences(" + a + ", " + b + ")",
-                    x.occurrences(a, b), model.occurrences(a, b));
-            case 7 -> CHECK.due(when + "longest()", x.longest(), model.longest());
-            case 8 -> CHECK.due(when + "longestAt()", x.longestAt(), model.longestAt());
-            case 9 -> CHECK.due(when + "words()", x.words(), model.words());
-            case 10 -> CHECK.due(when + "wordsOf(" + b + ")", x.wordsOf(b), model.wordsOf(b));
-            case 11 -> CHECK.due(when + "shortestAbsent()", x.shortestAbsent(), model.shortestAbsent());
-            default -> CHECK.due(when + "longestRepeat()", x.longestRepeat(), model.longestRepeat());
+            case 0 -> both.ask(Call.LENGTHS);
+            case 1 -> both.ask(Call.PIECES);
+            case 2 -> both.ask(Call.PIECE_LENGTH, p);
+            case 3 -> both.ask(Call.PIECE_FROM, p);
+            case 4 -> both.ask(Call.FEWEST);
+            case 5 -> both.ask(Call.CHEAPEST, copy, add);
+            case 6 -> both.ask(Call.OCCURRENCES, a, b);
+            case 7 -> both.ask(Call.LONGEST);
+            case 8 -> both.ask(Call.LONGEST_AT);
+            case 9 -> both.ask(Call.WORDS);
+            case 10 -> both.ask(Call.WORDS_OF, b);
+            case 11 -> both.ask(Call.SHORTEST_ABSENT);
+            default -> both.ask(Call.LONGEST_REPEAT);
         }
     }
 }

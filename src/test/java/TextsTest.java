@@ -3,8 +3,6 @@ public final class TextsTest {
     private static final Due CHECK = new Due("TextsTest");
     private static final int MIN = Integer.MIN_VALUE;
     private static final int MAX = Integer.MAX_VALUE;
-    private static final String S32 = "01230123012301230123012301230123";
-    private static final String T24 = "332211003322110033221100";
 
     public static void main(String[] args) {
         newObject();
@@ -39,14 +37,14 @@ public final class TextsTest {
             for (int c : new int[] {-1, 4, MIN, MAX}) {
                 CHECK.due("source(" + c + ") at " + n, x.source(c), CopyAddDelta.BAD_ARG);
             }
-            CHECK.due("source at " + n, x.source(S32.charAt(n) - '0'), n + 1);
+            CHECK.due("source at " + n, x.source(Due.S32.charAt(n) - '0'), n + 1);
         }
         for (int c = 0; c < 4; c++) {
             CHECK.due("source(" + c + ") when full", x.source(c), CopyAddDelta.FULL);
         }
         CHECK.due("source(4) when full", x.source(4), CopyAddDelta.BAD_ARG);
         CHECK.due("source(-1) when full", x.source(-1), CopyAddDelta.BAD_ARG);
-        CHECK.texts("source, full", x, S32, "");
+        CHECK.texts("source, full", x, Due.S32, "");
     }
 
     private static void target() {
@@ -55,14 +53,14 @@ public final class TextsTest {
             for (int c : new int[] {-1, 4, MIN, MAX}) {
                 CHECK.due("target(" + c + ") at " + n, x.target(c), CopyAddDelta.BAD_ARG);
             }
-            CHECK.due("target at " + n, x.target(T24.charAt(n) - '0'), n + 1);
+            CHECK.due("target at " + n, x.target(Due.T24.charAt(n) - '0'), n + 1);
         }
         for (int c = 0; c < 4; c++) {
             CHECK.due("target(" + c + ") when full", x.target(c), CopyAddDelta.FULL);
         }
         CHECK.due("target(4) when full", x.target(4), CopyAddDelta.BAD_ARG);
         CHECK.due("target(-1) when full", x.target(-1), CopyAddDelta.BAD_ARG);
-        CHECK.texts("target, full", x, "", T24);
+        CHECK.texts("target, full", x, "", Due.T24);
     }
 
     private static void quote() {
@@ -74,14 +72,14 @@ public final class TextsTest {
         CHECK.due("quote(0, 7)", x.quote(0, 7), 12);
         CHECK.texts("quote", x, "0123321", "223310123321");
 
-        CopyAddDelta y = Due.made(S32, "");
+        CopyAddDelta y = Due.made(Due.S32, "");
         CHECK.due("quote(8, 24)", y.quote(8, 24), 24);
         CHECK.due("quote(32, 0) when full", y.quote(32, 0), 24);
-        CHECK.texts("quote, full", y, S32, S32.substring(8));
+        CHECK.texts("quote, full", y, Due.S32, Due.S32.substring(8));
     }
 
     private static void quoteRefused() {
-        CopyAddDelta x = Due.made("0123", T24.substring(0, 22));
+        CopyAddDelta x = Due.made("0123", Due.T24.substring(0, 22));
         int[][] bad = {{-1, 0}, {-1, 1}, {0, -1}, {2, -1}, {5, -1}, {5, 0}, {4, 1}, {0, 5}, {3, 2},
             {MAX, 1}, {1, MAX}, {MAX, MAX}, {MIN, 0}, {0, MIN}, {MIN, MIN}, {MIN, MAX}, {MAX, MIN},
             {MAX, 0}, {0, MAX}};
@@ -93,7 +91,7 @@ public final class TextsTest {
         CHECK.due("quote(2, 2), just room", x.quote(2, 2), 24);
         CHECK.due("quote(0, 1), full", x.quote(0, 1), CopyAddDelta.FULL);
         CHECK.due("quote(4, 1), bad and full", x.quote(4, 1), CopyAddDelta.BAD_ARG);
-        CHECK.texts("quote, refused", x, "0123", T24.substring(0, 22) + "23");
+        CHECK.texts("quote, refused", x, "0123", Due.T24.substring(0, 22) + "23");
     }
 
     private static void change() {
@@ -123,20 +121,20 @@ public final class TextsTest {
         CHECK.due("change(0, 1) after accept", x.change(0, 1), 1);
         CHECK.texts("accept", x, "013321", "1");
 
-        CopyAddDelta y = Due.made(S32.substring(0, 8), T24);
+        CopyAddDelta y = Due.made(Due.S32.substring(0, 8), Due.T24);
         CHECK.due("accept() that fills", y.accept(), 32);
         CHECK.due("accept() of nothing when full", y.accept(), 32);
-        CHECK.texts("accept, full", y, S32.substring(0, 8) + T24, "");
+        CHECK.texts("accept, full", y, Due.S32.substring(0, 8) + Due.T24, "");
     }
 
     private static void acceptRefused() {
-        CopyAddDelta x = Due.made(S32.substring(0, 9), T24);
+        CopyAddDelta x = Due.made(Due.S32.substring(0, 9), Due.T24);
         CHECK.due("accept(), one too many", x.accept(), CopyAddDelta.FULL);
-        CHECK.texts("accept, one too many", x, S32.substring(0, 9), T24);
+        CHECK.texts("accept, one too many", x, Due.S32.substring(0, 9), Due.T24);
 
-        CopyAddDelta y = Due.made(S32, "2");
+        CopyAddDelta y = Due.made(Due.S32, "2");
         CHECK.due("accept(), full", y.accept(), CopyAddDelta.FULL);
-        CHECK.texts("accept, refused when full", y, S32, "2");
+        CHECK.texts("accept, refused when full", y, Due.S32, "2");
     }
 
     private static void clearSource() {
@@ -167,7 +165,7 @@ public final class TextsTest {
         CHECK.due("lengths() of 0 and 1", Due.made("", "0").lengths(), 64);
         CHECK.due("lengths() of 1 and 0", Due.made("0", "").lengths(), 1);
         CHECK.due("lengths() of 5 and 3", Due.made("01230", "012").lengths(), 197);
-        CHECK.due("lengths() of 32 and 24", Due.made(S32, T24).lengths(), 32 + 64 * 24);
+        CHECK.due("lengths() of 32 and 24", Due.made(Due.S32, Due.T24).lengths(), 32 + 64 * 24);
     }
 
     private static void twoObjects() {

@@ -1,0 +1,83 @@
+/**
+ * One object and the model beside it. Each call goes to both, and the object's
+ * answer is due to be the model's; an object that throws has answered wrongly.
+ */
+final class Beside {
+    /** Nothing is promised about an object's later calls, so no test makes any. */
+    static final int MOST_CALLS = 512;
+
+    private final Due check;
+    private final String when;
+    private final CopyAddDelta object = new CopyAddDelta();
+    private final Model model = new Model();
+    private int calls = 0;
+
+    Beside(Due check, String when) {
+        this.check = check;
+        this.when = when;
+    }
+
+    /** With these texts, a digit a letter. */
+    Beside(Due check, String when, String source, String target) {
+        this(check, when);
+        append(Call.SOURCE, source);
+        append(Call.TARGET, target);
+    }
+
+    /**
+     * With these texts, after both texts were full of other letters: what was
+     * there once must not show. The source comes by way of the target.
+     */
+    static Beside worn(Due check, String when, String source, String target) {
+        Beside both = new Beside(check, when, "01230321".repeat(4), "32100123".repeat(3));
+        both.ask(Call.CLEAR_SOURCE);
+        both.ask(Call.CLEAR_TARGET);
+        int half = source.length() / 2;
+        for (String part : new String[] {source.substring(0, half), source.substring(half)}) {
+            both.append(Call.TARGET, part);
+            both.ask(Call.ACCEPT);
+        }
+        both.append(Call.TARGET, target);
+        return both;
+    }
+
+    int calls() {
+        return calls;
+    }
+
+    void ask(Call call) {
+        ask(call, 0, 0);
+    }
+
+    void ask(Call call, int a) {
+        ask(call, a, 0);
+    }
+
+    void ask(Call call, int a, int b) {
+        due(call, a, b, call.onModel.answer(model, a, b));
+    }
+
+    /** The model isn't asked: it goes on as if there had been no such call. */
+    void refused(Call call, int a, int b, int code) {
+        due(call, a, b, code);
+    }
+
+    private void due(Call call, int a, int b, int want) {
+        calls++;
+        if (calls > MOST_CALLS) {
+            throw new IllegalStateException("a test makes more than " + MOST_CALLS + " calls");
+        }
+        String told = when + ", call " + calls + ": " + call.told(a, b);
+        try {
+            check.due(told, call.onObject.answer(object, a, b), want);
+        } catch (RuntimeException | Error thrown) {
+            check.holds(told + " doesn't throw, but " + thrown, false);
+        }
+    }
+
+    private void append(Call call, String letters) {
+        for (char c : letters.toCharArray()) {
+            ask(call, c - '0');
+        }
+    }
+}
