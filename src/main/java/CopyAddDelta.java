@@ -10,12 +10,14 @@ public final class CopyAddDelta {
     private static final int LETTERS = 4;
     private static final int SOURCE_ROOM = 32;
     private static final int TARGET_ROOM = 24;
+    // Before each letter of the target and after the last one.
     private static final int TARGET_CUTS = 25;
     private static final int LENGTHS_BASE = 64;
     private static final int GREATEST_PRICE = 100;
 
     private final int[] sourceLetters = new int[SOURCE_ROOM];
     private final int[] targetLetters = new int[TARGET_ROOM];
+    // A field only because a method makes no array: no call needs what another left here.
     private final int[] costUpTo = new int[TARGET_CUTS];
     private int sourceLength;
     private int targetLength;

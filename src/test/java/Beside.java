@@ -6,6 +6,9 @@ final class Beside {
     /** Nothing is promised about an object's later calls, so no test makes any. */
     static final int MOST_CALLS = 512;
 
+    /** A copy as dear as one letter, as two or three, and free; and what is no price. */
+    private static final int[][] PRICES = {{7, 7}, {5, 3}, {5, 2}, {2, 5}, {0, 1}, {1, 0}, {-1, 1}, {1, 101}};
+
     private final Due check;
     private final String when;
     private final CopyAddDelta object = new CopyAddDelta();
@@ -55,6 +58,51 @@ final class Beside {
 
     void ask(Call call, int a, int b) {
         due(call, a, b, call.onModel.answer(model, a, b));
+    }
+
+    /** Every query without arguments. */
+    void askPlain() {
+        for (Call call : Call.values()) {
+            if (call.arguments == 0 && call.ordinal() >= Call.LENGTHS.ordinal()) {
+                ask(call);
+            }
+        }
+    }
+
+    /** Every query, with the arguments that the texts of now give a meaning and those beside them. */
+    void askAll() {
+        int s = model.lengths() % 64;
+        int t = model.lengths() / 64;
+        askPlain();
+        for (int p = -1; p <= t; p++) {
+            ask(Call.PIECE_LENGTH, p);
+            ask(Call.PIECE_FROM, p);
+        }
+        for (int i = 0; i <= t + 1; i++) {
+            for (int j = i - 1; j <= t + 1; j++) {
+                ask(Call.OCCURRENCES, i, j);
+            }
+        }
+        for (int k = 0; k <= s + 1; k++) {
+            ask(Call.WORDS_OF, k);
+        }
+        for (int[] prices : PRICES) {
+            ask(Call.CHEAPEST, prices[0], prices[1]);
+        }
+    }
+
+    /** Reads both texts, which leaves the target empty. */
+    void askLetters() {
+        ask(Call.LENGTHS);
+        for (int i = 0; i <= 24; i++) {
+            ask(Call.CHANGE, i, 0);
+        }
+        ask(Call.CLEAR_TARGET);
+        for (int k = 0; k <= 32; k++) {
+            ask(Call.QUOTE, k, 1);
+            ask(Call.CHANGE, 0, 0);
+            ask(Call.CLEAR_TARGET);
+        }
     }
 
     /** The model isn't asked: it goes on as if there had been no such call. */

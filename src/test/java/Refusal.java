@@ -5,7 +5,7 @@ import java.util.function.Consumer;
 final class Refusal {
     /** Each on an object of its own, as together they would be more calls than an object is made for. */
     private static final List<Consumer<Beside>> LATER =
-            List.of(Refusal::numbers, Refusal::stretches, Refusal::letters, Refusal::growth);
+            List.of(Refusal::numbers, Refusal::stretches, Beside::askLetters, Refusal::growth);
 
     private final Due check;
 
@@ -49,11 +49,7 @@ final class Refusal {
     }
 
     private static void numbers(Beside both) {
-        for (Call call : Call.values()) {
-            if (call.arguments == 0 && call.ordinal() >= Call.LENGTHS.ordinal()) {
-                both.ask(call);
-            }
-        }
+        both.askPlain();
         for (int p = -1; p <= 25; p++) {
             both.ask(Call.PIECE_LENGTH, p);
             both.ask(Call.PIECE_FROM, p);
@@ -76,19 +72,6 @@ final class Refusal {
         }
     }
 
-    private static void letters(Beside both) {
-        both.ask(Call.LENGTHS);
-        for (int i = 0; i <= 24; i++) {
-            both.ask(Call.CHANGE, i, 0);
-        }
-        both.ask(Call.CLEAR_TARGET);
-        for (int k = 0; k <= 32; k++) {
-            both.ask(Call.QUOTE, k, 1);
-            both.ask(Call.CHANGE, 0, 0);
-            both.ask(Call.CLEAR_TARGET);
-        }
-    }
-
     /** The texts go on from where they were: to their ends, and into one another. */
     private static void growth(Beside both) {
         for (int c = 0; c < 4; c++) {
@@ -103,6 +86,6 @@ final class Refusal {
         both.ask(Call.CLEAR_SOURCE);
         both.ask(Call.ACCEPT);
         both.ask(Call.WORDS);
-        letters(both);
+        both.askLetters();
     }
 }
